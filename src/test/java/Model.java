@@ -22,7 +22,8 @@ final class Model {
   private record Made(int stage, int rule, int z, List<String> needs) {
   }
 
-  private record Derived(Map<String, Made> facts, List<List<Integer>> rounds, int[] layers) {
+  private record Derived(Map<String, Made> facts, List<List<Integer>> rounds, int[] layers,
+      Map<String, Integer> depths) {
   }
 
   private record State(Set<String> told, List<String> rules) {
@@ -105,7 +106,22 @@ final class Model {
     return ways;
   }
 
-  private static Derived derive(State state) {
+  /** What was derived of the latest states: only to save time. */
+  private final Map<State, Derived> known = new HashMap<>();
+
+  private Derived derive(State state) {
+    Derived derived = known.get(state);
+    if (derived == null) {
+      if (known.size() > 30) {
+        known.clear();
+      }
+      derived = deriveNew(state);
+      known.put(state.copy(), derived);
+    }
+    return derived;
+  }
+
+  private static Derived deriveNew(State state) {
     int[] layers = layers(state.rules);
     Map<String, Made> facts = new TreeMap<>();
     for (String told : state.told) {
@@ -135,7 +151,7 @@ final class Model {
       }
       rounds.add(counts);
     }
-    return new Derived(facts, rounds, layers);
+    return new Derived(facts, rounds, layers, new HashMap<>());
   }
 
   private static void add(String rule, int number, int round, Set<String> before,
@@ -167,9 +183,13 @@ final class Model {
 
   private static int depth(Derived derived, String fact) {
     int depth = 0;
+    if (derived.depths.containsKey(fact)) {
+      return derived.depths.get(fact);
+    }
     for (String need : derived.facts.get(fact).needs) {
       depth = Math.max(depth, depth(derived, need) + 1);
     }
+    derived.depths.put(fact, depth);
     return depth;
   }
 
@@ -249,6 +269,16 @@ final class Model {
       told += fact.startsWith(relation) ? 1 : 0;
     }
     return told;
+  }
+
+  /** A fact that holds, by any number: its relation and persons, null if none holds. */
+  int[] someFact(int number) {
+    List<String> facts = new ArrayList<>(hold());
+    if (facts.isEmpty()) {
+      return null;
+    }
+    String fact = facts.get(number % facts.size());
+    return new int[] {fact.charAt(0) - '0', fact.charAt(1) - 'a', fact.charAt(2) - 'a'};
   }
 
   private Set<String> hold() {

@@ -1,6 +1,6 @@
 /** Runs of mixed calls, each answer compared with that of the plain model. */
 public final class ModelTest {
-  private static final int RUNS = 250;
+  private static final int RUNS = 200;
   private static final int CALLS = 510;
   private static final String SIGNS = "+-rd;=!012356abfgxyzw9 ";
 
@@ -34,11 +34,12 @@ public final class ModelTest {
     KinFacts x = new KinFacts();
     Model m = new Model();
     int calls = 0;
+    int first = next(3) * 30;
     while (calls < CALLS) {
-      int kind = next(10);
-      if (kind == 0) {
+      int kind = calls < first ? next(8) : next(12);
+      if (kind <= 1 || kind >= 3 && calls < first) {
         calls += change(x, m, width, negations);
-      } else if (kind == 1) {
+      } else if (kind == 2 && next(3) == 0) {
         calls += text(x, m, width, negations, CALLS - calls);
       } else {
         calls += ask(x, m, width, negations);
@@ -59,11 +60,17 @@ public final class ModelTest {
   private static int[] rule(int width, int negations) {
     int[] rule = {relation(width), 0, 0, 0};
     int conditions = 1 + next(3);
+    // mostly no higher relation, so that the rules are layered
+    int below = next(4) == 0 ? width : Math.max(1, Math.min(width, rule[0] + 1));
     for (int place = 1; place <= conditions; place++) {
-      rule[place] = code(width, place > 1 && next(6) < negations || next(25) == 0);
+      boolean isNegated = place > 1 && next(6) < negations || next(25) == 0;
+      rule[place] = code(isNegated ? Math.max(1, below - 1) : below, isNegated);
+      if (isNegated && below > 1 && next(2) == 0) {
+        rule[place] = -(1 + 9 * (below - 2) + next(9));
+      }
     }
-    if (next(4) == 0) {
-      rule[1] = 2 + 9 * next(width);
+    if (next(2) == 0) {
+      rule[1] = 2 + 9 * next(below);
     }
     if (next(40) == 0) {
       rule[1 + next(3)] = next(2) == 0 ? 0 : (next(2) * 2 - 1) * (54 + next(2));
@@ -149,11 +156,13 @@ public final class ModelTest {
   }
 
   private static int ask(KinFacts x, Model m, int width, int negations) {
-    int r = relation(width);
-    int one = number();
-    int other = number();
+    int[] some = next(3) == 0 ? null : m.someFact(next(1000));
+    int r = some == null ? relation(width) : some[0];
+    int one = some == null ? number() : some[1];
+    int other = some == null ? number() : some[2];
     int what = next(12) - 1;
     int number = next(6) - next(2);
+    int layer = number < 5 && number >= 0 ? next(m.layers()) : number;
     boolean is = next(2) == 0;
     int[] rule = rule(width, negations);
     switch (next(24)) {
@@ -175,8 +184,8 @@ public final class ModelTest {
             () -> m.wouldLayer(rule[0], rule[1], rule[2], rule[3]));
         break;
       case 14: same(x::layers, m::layers); break;
-      case 15: same(() -> x.rounds(number), () -> m.rounds(number)); break;
-      case 16: same(() -> x.fresh(number, what), () -> m.fresh(number, what)); break;
+      case 15: same(() -> x.rounds(layer), () -> m.rounds(layer)); break;
+      case 16: same(() -> x.fresh(layer, what / 2), () -> m.fresh(layer, what / 2)); break;
       case 17: same(() -> x.line(r, one, other), () -> m.line(r, one, other)); break;
       case 18: same(() -> x.ruleLine(number), () -> m.ruleLine(number)); break;
       case 19: same(() -> x.character(what + number), () -> m.character(what + number)); break;
