@@ -922,14 +922,14 @@ public final class KinFacts {
       return highest + 1;
     }
 
-    /** Finds the least layers for the first of the rules; answers whether there are any. */
-    boolean arrange(Rules rules, int first) {
+    /** Finds the least layers for as many rules from the first on; whether there are any. */
+    boolean arrange(Rules rules, int ruleCount) {
       for (int relation = 0; relation < layers.length; relation++) {
         layers[relation] = 0;
       }
-      // a pass lifts a relation at least, and none of layered rules gets above the layer 5
+      // each pass but the last one lifts a relation, and those of layered rules stay below 6
       for (int pass = 0; pass <= RELATIONS * RELATIONS; pass++) {
-        if (!lift(rules, first)) {
+        if (!lift(rules, ruleCount)) {
           return true;
         }
         if (count() > RELATIONS) {
@@ -939,9 +939,9 @@ public final class KinFacts {
       return false;
     }
 
-    private boolean lift(Rules rules, int first) {
+    private boolean lift(Rules rules, int ruleCount) {
       boolean isLifted = false;
-      for (int rule = 0; rule < first; rule++) {
+      for (int rule = 0; rule < ruleCount; rule++) {
         int head = rules.head(rule);
         for (int place = 0; place < MOST_CONDITIONS; place++) {
           int code = rules.code(rule, place);
@@ -997,8 +997,8 @@ public final class KinFacts {
       }
       start(state.told);
       layers.arrange(state.rules, state.rules.count);
-      int highest = layers.count();
-      for (int layer = 0; layer < highest; layer++) {
+      int layersNow = layers.count();
+      for (int layer = 0; layer < layersNow; layer++) {
         // in the round 1 all may count as new: each rule has a condition that is not negated
         recent.copy(facts);
         for (int round = 1; round <= FACTS; round++) {
@@ -1032,7 +1032,10 @@ public final class KinFacts {
       boolean isNew = false;
       for (int rule = 0; rule < rules.count; rule++) {
         int head = rules.head(rule);
-        for (int pair = 0; pair < PAIRS && layers.of(head) == layer; pair++) {
+        if (layers.of(head) != layer) {
+          continue;
+        }
+        for (int pair = 0; pair < PAIRS; pair++) {
           int fact = PAIRS * head + pair;
           if (facts.has(fact) || added.has(fact)) {
             continue;
@@ -1136,8 +1139,8 @@ public final class KinFacts {
 
     int allRounds() {
       int rounds = 0;
-      int highest = layers.count();
-      for (int layer = 0; layer < highest; layer++) {
+      int layersNow = layers.count();
+      for (int layer = 0; layer < layersNow; layer++) {
         rounds += roundsOf(layer);
       }
       return rounds;
@@ -1232,8 +1235,8 @@ public final class KinFacts {
 
     private void deriveAll(Rules rules) {
       layers.arrange(rules, rules.count);
-      int highest = layers.count();
-      for (int layer = 0; layer < highest; layer++) {
+      int layersNow = layers.count();
+      for (int layer = 0; layer < layersNow; layer++) {
         // each pass but the last one makes a fact at least
         for (int pass = 0; pass <= FACTS; pass++) {
           if (!makeMore(rules, layer)) {
@@ -1247,7 +1250,10 @@ public final class KinFacts {
       boolean isMore = false;
       for (int rule = 0; rule < rules.count; rule++) {
         int head = rules.head(rule);
-        for (int pair = 0; pair < PAIRS && layers.of(head) == layer; pair++) {
+        if (layers.of(head) != layer) {
+          continue;
+        }
+        for (int pair = 0; pair < PAIRS; pair++) {
           int fact = PAIRS * head + pair;
           if (!facts.has(fact)
               && rules.makersOf(rule, pair / PERSONS, pair % PERSONS, facts, facts) != 0) {

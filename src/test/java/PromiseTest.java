@@ -238,6 +238,11 @@ public final class PromiseTest {
     fact(last, "1ab", 1, 0, 0, 1, 2, 1);
     fact(last, "1bb", 1, 0, 0, 1, 3, 2);
     fact(last, "3ab", 2, 1, 1, 2, 4, 2);
+    // the first of all facts, derived and needed
+    KinFacts first = after("+1aa", "r0=1xy;r2=0xy0yx;r3=2xy1xy0xy");
+    fact(first, "0aa", 1, 0, 0, 1, 2, 1);
+    fact(first, "2aa", 2, 1, 0, 2, 3, 1);
+    fact(first, "3aa", 3, 2, 0, 3, 4, 3);
   }
 
   private static void ways() {
@@ -647,7 +652,9 @@ public final class PromiseTest {
     String[] odd = {" ", ";", "a", "+6", "+-", "+:", "+/", "+0g", "+0`", "+0ag", "+0ab+", "+0ab ",
         "+0ab;;", "-6", "-0A", "d:", "da", "d-", "d00", "r6", "r1:", "r1=6", "r1=;", "r1=!!", "r1=0w",
         "r1=0{", "r1=0xw", "r1=0xy6", "r1=0xyx", "r1=0xy!;", "r1=0xy0xy0xy0", "r1=0xy0xy0xy!",
-        "r1=0xy!0xy!0xy!", "R", "D", "d\u0000", "\u0130", "+0ab\u0000"};
+        "r1=0xy!0xy!0xy!", "R", "D", "d\u0000", "\u0130", "+0ab\u0000", "*",
+        ",", ".", "/", "q", "s", "c", "e", "+0ab<", "+0ab:", "r1>", "r1<", "r1=\"", "r1= ", "r1=0xy\"",
+        "r1=0xy ", "r1=0xy/", "d/", "+0a`", "+0ax", "r1=0x{", "r1=0xy0w", "r1=0xy0xy0xy5"};
     for (String text : odd) {
       error(x, text, text.length() - 1);
       error(x, text + "+0ab", text.length() - 1);
@@ -698,6 +705,18 @@ public final class PromiseTest {
     }
     y.append('+');
     due(1, () -> y.account(8));
+    KinFacts first = after("+1aa", "r0=1xy");
+    int[] firsts = {2, 1, 1, 1, 1, 1, 2, 0, 0, 2};
+    for (int what = 0; what < 10; what++) {
+      int it = what;
+      due(firsts[it], () -> first.account(it));
+    }
+    due(0.5, first::meanDepth);
+    due(1, () -> first.ruleOf(0, 2));
+    due(1, () -> first.relationOf(0, 5));
+    due(1, () -> first.fresh(0, 1));
+    KinFacts negated = after("r2=!0xy!1yx3xy;r3=!0xy1yx");
+    due(3, () -> negated.account(7));
     due(ARGUMENT, () -> y.account(10));
     due(ARGUMENT, () -> y.account(-1));
   }
