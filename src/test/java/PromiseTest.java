@@ -1,13 +1,5 @@
 /** Each promise by calls that are told by hand: ordinary ones, the edges, and wrong ones. */
-public final class PromiseTest {
-  private static final String ARGUMENT = "IllegalArgumentException";
-  private static final String REFUSED = "UnsupportedOperationException";
-  private static final String ELEMENT = "NoSuchElementException";
-  private static final String INDEX = "IndexOutOfBoundsException";
-  private static final String STATE = "IllegalStateException";
-  private static final String ARITHMETIC = "ArithmeticException";
-  private static final int[] NO_RELATIONS = {-1, 6, Integer.MIN_VALUE, Integer.MAX_VALUE};
-
+public final class PromiseTest extends Calls {
   public static void main(String[] args) {
     newObject();
     tell();
@@ -39,54 +31,6 @@ public final class PromiseTest {
     undo();
     saveAndRestore();
     Check.end();
-  }
-
-  private static void due(Object want, Check.Call call) {
-    Check.due(want, call);
-  }
-
-  /** A condition as a number, from its text. */
-  private static int code(String condition) {
-    boolean isNegated = condition.charAt(0) == '!';
-    String rest = isNegated ? condition.substring(1) : condition;
-    int code = 1 + 9 * (rest.charAt(0) - '0') + 3 * (rest.charAt(1) - 'x') + (rest.charAt(2) - 'x');
-    return isNegated ? -code : code;
-  }
-
-  private static int rule(KinFacts x, int head, String... conditions) {
-    int second = conditions.length > 1 ? code(conditions[1]) : 0;
-    int third = conditions.length > 2 ? code(conditions[2]) : 0;
-    return x.rule(head, code(conditions[0]), second, third);
-  }
-
-  private static Object run(KinFacts x, String text) {
-    for (int i = 0; i < text.length(); i++) {
-      x.append(text.charAt(i));
-    }
-    return Check.answer(x::run);
-  }
-
-  private static KinFacts after(String... texts) {
-    KinFacts x = new KinFacts();
-    for (String text : texts) {
-      due(text.split(";").length, () -> run(x, text));
-    }
-    return x;
-  }
-
-  private static String written(KinFacts x, int length) {
-    StringBuilder line = new StringBuilder();
-    for (int i = 0; i < length; i++) {
-      line.append(x.character(i));
-    }
-    due(INDEX, () -> x.character(length));
-    due(INDEX, () -> x.character(-1));
-    return line.toString();
-  }
-
-  /** Parents 0 in a line a to f, ancestors 1. */
-  private static KinFacts ancestors() {
-    return after("+0ab;+0bc;+0cd;+0de;+0ef", "r1=0xy;r1=0xz1zy");
   }
 
   private static void newObject() {
@@ -125,7 +69,7 @@ public final class PromiseTest {
     due(3, () -> x.tell(5, 4, 5));
     due(REFUSED, () -> x.tell(5, 5, 5));
     due(2, () -> x.refusal(true));
-    for (int no : NO_RELATIONS) {
+    for (int no : OUTSIDE) {
       due(ARGUMENT, () -> x.tell(no, 0, 0));
       due(ARGUMENT, () -> x.tell(0, no, 0));
       due(ARGUMENT, () -> x.tell(0, 0, no));
@@ -152,7 +96,7 @@ public final class PromiseTest {
     due(false, () -> x.isTold(0, 2, 3));
     due(REFUSED, () -> x.untell(0, 2, 3));
     due(0, () -> x.refusal(true));
-    for (int no : NO_RELATIONS) {
+    for (int no : OUTSIDE) {
       due(ARGUMENT, () -> x.untell(no, 0, 0));
       due(ARGUMENT, () -> x.untell(0, no, 0));
       due(ARGUMENT, () -> x.untell(0, 0, no));
@@ -168,7 +112,7 @@ public final class PromiseTest {
       due(true, () -> x.holds(1, 0, 5, isAgain));
       due(false, () -> x.holds(1, 5, 0, isAgain));
       due(false, () -> x.holds(0, 0, 2, isAgain));
-      for (int no : NO_RELATIONS) {
+      for (int no : OUTSIDE) {
         due(ARGUMENT, () -> x.holds(no, 0, 0, isAgain));
         due(ARGUMENT, () -> x.holds(0, no, 0, isAgain));
         due(ARGUMENT, () -> x.holds(0, 0, no, isAgain));
@@ -195,20 +139,10 @@ public final class PromiseTest {
     due(false, () -> x.isTold(1, 0, 1));
     x.tell(1, 0, 1);
     due(true, () -> x.isTold(1, 0, 1));
-    for (int no : NO_RELATIONS) {
+    for (int no : OUTSIDE) {
       due(ARGUMENT, () -> x.isTold(no, 0, 0));
       due(ARGUMENT, () -> x.isTold(0, no, 0));
       due(ARGUMENT, () -> x.isTold(0, 0, no));
-    }
-  }
-
-  private static void fact(KinFacts x, String fact, int... numbers) {
-    int relation = fact.charAt(0) - '0';
-    int one = fact.charAt(1) - 'a';
-    int other = fact.charAt(2) - 'a';
-    for (int what = 0; what < 6; what++) {
-      int it = what;
-      due(numbers[what], () -> x.factOf(relation, one, other, it));
     }
   }
 
@@ -255,7 +189,7 @@ public final class PromiseTest {
     x.tell(0, 0, 0);
     due(1, () -> x.ways(1, 0, 1));
     due(3, () -> x.ways(0, 0, 0));
-    for (int no : NO_RELATIONS) {
+    for (int no : OUTSIDE) {
       due(ARGUMENT, () -> x.ways(no, 0, 0));
       due(ARGUMENT, () -> x.ways(0, no, 0));
       due(ARGUMENT, () -> x.ways(0, 0, no));
@@ -273,7 +207,7 @@ public final class PromiseTest {
     x.tell(1, 0, 1);
     due(0, () -> x.would(1, 0, 1));
     due(3, () -> x.account(9));
-    for (int no : NO_RELATIONS) {
+    for (int no : OUTSIDE) {
       due(ARGUMENT, () -> x.would(no, 0, 0));
       due(ARGUMENT, () -> x.would(0, no, 0));
       due(ARGUMENT, () -> x.would(0, 0, no));
@@ -291,16 +225,9 @@ public final class PromiseTest {
     due(2, () -> x.kin(0, 0));
     due(0, () -> x.kin(0, 5));
     due(62, () -> x.kin(1, 0));
-    for (int no : NO_RELATIONS) {
+    for (int no : OUTSIDE) {
       due(ARGUMENT, () -> x.kin(no, 0));
       due(ARGUMENT, () -> x.kin(0, no));
-    }
-  }
-
-  private static void relation(KinFacts x, int relation, int... numbers) {
-    for (int what = 0; what < 6; what++) {
-      int it = what;
-      due(numbers[what], () -> x.relationOf(relation, it));
     }
   }
 
@@ -316,7 +243,7 @@ public final class PromiseTest {
     relation(x, 5, 0, 0, 0, 0, 1, 0);
     KinFacts y = ancestors();
     relation(y, 1, 15, 0, 0, 2, 1, 5);
-    for (int no : NO_RELATIONS) {
+    for (int no : OUTSIDE) {
       due(ARGUMENT, () -> x.relationOf(no, 0));
       due(ARGUMENT, () -> x.relationOf(no, 6));
       due(INDEX, () -> x.relationOf(0, no));
@@ -336,7 +263,7 @@ public final class PromiseTest {
       int it = place;
       due(order[it], () -> x.ranked(it));
     }
-    for (int no : NO_RELATIONS) {
+    for (int no : OUTSIDE) {
       due(ELEMENT, () -> x.ranked(no));
     }
     due(0, () -> rule(x, 2, "1xy"));
@@ -356,7 +283,7 @@ public final class PromiseTest {
     due(true, () -> x.isMutual(2));
     rule(x, 3, "3yx");
     due(true, () -> x.isMutual(3));
-    for (int no : NO_RELATIONS) {
+    for (int no : OUTSIDE) {
       due(ARGUMENT, () -> x.isMutual(no));
     }
   }
@@ -398,12 +325,6 @@ public final class PromiseTest {
     KinFacts y = after("r1=0xy!2xy;r2=3xy");
     refused(y, 5, 3, 3, "1xy");
     refused(y, 5, 0, 0, "2xy", "!1xy");
-  }
-
-  private static void refused(KinFacts x, int reason, int detail, int head, String... conditions) {
-    due(REFUSED, () -> rule(x, head, conditions));
-    due(reason, () -> x.refusal(false));
-    due(detail, () -> x.refusal(true));
   }
 
   private static void drop() {
@@ -512,7 +433,7 @@ public final class PromiseTest {
       due(ELEMENT, () -> x.fresh(it, 0));
       due(ELEMENT, () -> x.fresh(it, -1));
     }
-    for (int no : NO_RELATIONS) {
+    for (int no : OUTSIDE) {
       due(ELEMENT, () -> x.rounds(no));
       due(ELEMENT, () -> x.fresh(no, 1));
     }
@@ -541,7 +462,7 @@ public final class PromiseTest {
     due(13, () -> x.line(1, 0, 5));
     due("1af<1:0ab,1bf", () -> written(x, 13));
     due(ELEMENT, () -> x.line(1, 5, 0));
-    for (int no : NO_RELATIONS) {
+    for (int no : OUTSIDE) {
       due(ARGUMENT, () -> x.line(no, 0, 0));
       due(ARGUMENT, () -> x.line(0, no, 0));
       due(ARGUMENT, () -> x.line(0, 0, no));
@@ -634,7 +555,8 @@ public final class PromiseTest {
     due(60, x::errorPosition);
   }
 
-  private static void error(KinFacts x, String text, int at) {
+  private static void error(String text, int at) {
+    KinFacts x = new KinFacts();
     due(ARGUMENT, () -> run(x, text));
     due(at, x::errorPosition);
     due(0, () -> x.account(8));
@@ -643,11 +565,10 @@ public final class PromiseTest {
 
   private static void runErrors() {
     Check.part("promises 25 and 26");
-    KinFacts x = new KinFacts();
     String[] cut = {"", "+", "+0", "+0a", "-", "-5", "-5f", "d", "r", "r1", "r1=", "r1=0", "r1=0x",
         "r1=0xy!", "r1=0xy!0", "r1=0xy!0x", "r1=0xy0yz!", "r1=!", "+0ab;", "d0;", "+0ab;+", "r1=0xy;"};
     for (String text : cut) {
-      error(x, text, text.length());
+      error(text, text.length());
     }
     String[] odd = {" ", ";", "a", "+6", "+-", "+:", "+/", "+0g", "+0`", "+0ag", "+0ab+", "+0ab ",
         "+0ab;;", "-6", "-0A", "d:", "da", "d-", "d00", "r6", "r1:", "r1=6", "r1=;", "r1=!!", "r1=0w",
@@ -656,9 +577,11 @@ public final class PromiseTest {
         ",", ".", "/", "q", "s", "c", "e", "+0ab<", "+0ab:", "r1>", "r1<", "r1=\"", "r1= ", "r1=0xy\"",
         "r1=0xy ", "r1=0xy/", "d/", "+0a`", "+0ax", "r1=0x{", "r1=0xy0w", "r1=0xy0xy0xy5"};
     for (String text : odd) {
-      error(x, text, text.length() - 1);
-      error(x, text + "+0ab", text.length() - 1);
+      error(text, text.length() - 1);
+      error(text + "+0ab", text.length() - 1);
     }
+    KinFacts x = new KinFacts();
+    due(ARGUMENT, () -> run(x, "+"));
     due(1, () -> run(x, "+0ab"));
     due(-1, x::errorPosition);
     due(1, () -> x.account(1));
