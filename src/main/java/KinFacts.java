@@ -585,7 +585,7 @@ public final class KinFacts {
       return;
     }
     written.add('<');
-    written.addNumber('0', derived.makers[fact]);
+    written.addNumber('0', derived.maker(fact));
     char ahead = ':';
     for (int place = 0; place < MOST_CONDITIONS; place++) {
       int need = derived.need(now.rules, fact, place);
@@ -1042,11 +1042,8 @@ public final class KinFacts {
           }
           int persons = rules.makersOf(rule, pair / PERSONS, pair % PERSONS, facts, recent);
           if (persons != 0) {
-            stages[fact] = round;
-            makers[fact] = rule;
-            thirds[fact] = lowestOf(persons);
+            enter(fact, round, rule, lowestOf(persons));
             rest(rules, fact);
-            added.put(fact);
             isNew = true;
           }
         }
@@ -1054,33 +1051,51 @@ public final class KinFacts {
       return isNew;
     }
 
+    private void enter(int fact, int round, int rule, int third) {
+      if (fact < 0 || fact >= FACTS) {
+        return;
+      }
+      stages[fact] = round;
+      makers[fact] = rule;
+      thirds[fact] = third;
+      added.put(fact);
+    }
+
     /** Rests a derived fact on those that it needs. */
     private void rest(Rules rules, int fact) {
       for (int place = 0; place < MOST_CONDITIONS; place++) {
         int need = need(rules, fact, place);
-        if (need >= 0) {
-          depths[fact] = Math.max(depths[fact], depths[need] + 1);
-          for (int relation = 0; relation < RELATIONS; relation++) {
-            roots[RELATIONS * fact + relation] |= roots[RELATIONS * need + relation];
-          }
+        if (fact < 0 || fact >= FACTS || need < 0 || need >= FACTS) {
+          continue;
+        }
+        depths[fact] = Math.max(depths[fact], depths[need] + 1);
+        for (int relation = 0; relation < RELATIONS; relation++) {
+          roots[RELATIONS * fact + relation] |= roots[RELATIONS * need + relation];
         }
       }
     }
 
+    int maker(int fact) {
+      return fact >= 0 && fact < makers.length ? makers[fact] : -1;
+    }
+
     /** The fact of the condition at a place of a fact's derivation, -1 for none. */
     int need(Rules rules, int fact, int place) {
+      if (fact < 0 || fact >= FACTS) {
+        return -1;
+      }
       int code = rules.code(makers[fact], place);
       if (code <= 0) {
         return -1;
       }
-      int one = person(firstIn(code), fact);
-      int other = person(secondIn(code), fact);
+      int one = person(firstIn(code), fact, thirds[fact]);
+      int other = person(secondIn(code), fact, thirds[fact]);
       return numberOf(relationIn(code), one, other);
     }
 
-    private int person(int letter, int fact) {
+    private static int person(int letter, int fact, int third) {
       if (letter == Z) {
-        return thirds[fact];
+        return third;
       }
       return letter == 0 ? fact / PERSONS % PERSONS : fact % PERSONS;
     }
@@ -1100,6 +1115,9 @@ public final class KinFacts {
     }
 
     int sizeOf(int fact) {
+      if (fact < 0 || fact >= FACTS) {
+        return 0;
+      }
       int size = 0;
       for (int relation = 0; relation < RELATIONS; relation++) {
         size += Long.bitCount(roots[RELATIONS * fact + relation]);
@@ -1279,17 +1297,21 @@ public final class KinFacts {
     }
 
     void mark(State now) {
-      State state = states[next];
+      State state = marked();
       if (state != null) {
         state.copy(now);
       }
     }
 
     void giveBack(State now) {
-      State state = states[next];
+      State state = marked();
       if (state != null) {
         now.copy(state);
       }
+    }
+
+    private State marked() {
+      return next >= 0 && next < states.length ? states[next] : null;
     }
 
     void keep() {

@@ -34,8 +34,12 @@ public final class FaceTest {
   public static void main(String[] args) throws IOException {
     Check.part("the face");
     members();
+    document(Files.readString(Path.of("src/main/java/KinFacts.java")),
+        Files.readString(Path.of("../shared/DOC.md")));
     Check.part("the language");
     source(Files.readString(Path.of("src/main/java/KinFacts.java")));
+    Check.part("rule 7: an index is looked at before it is used");
+    indexes(Files.readString(Path.of("src/main/java/KinFacts.java")));
     Check.end();
   }
 
@@ -73,6 +77,22 @@ public final class FaceTest {
     Check.due(true, () -> KinFacts.class.getDeclaredClasses().length <= 11);
   }
 
+  /** Each line of the document's face stands in the source, with what it may throw. */
+  private static void document(String source, String document) {
+    String plain = source.replaceAll("\\s+", " ");
+    int begin = document.indexOf("public final class KinFacts {");
+    int lines = 0;
+    for (String line : document.substring(begin, document.indexOf("```", begin)).split("\n")) {
+      if (line.startsWith("    public ")) {
+        String member = line.trim().replace(";", " {");
+        Check.due(member, () -> plain.contains(member) ? member : "none");
+        lines++;
+      }
+    }
+    int members = lines;
+    Check.due(FACE.length + 1, () -> members);
+  }
+
   private static String signature(Method method) {
     List<String> types = new ArrayList<>();
     for (Class<?> type : method.getParameterTypes()) {
@@ -105,5 +125,34 @@ public final class FaceTest {
         Check.due("plain signs", () -> "" + (int) sign);
       }
     }
+  }
+
+  private static void indexes(String text) {
+    int inside = text.indexOf("private static final class");
+    int used = 0;
+    for (String method : text.substring(0, inside).split("(?m)^ {2}\\}$")) {
+      used += lookedAt(method);
+    }
+    for (String method : text.substring(inside).split("(?m)^ {4}\\}$")) {
+      used += lookedAt(method);
+    }
+    int found = used;
+    Check.due(true, () -> found > 50);
+  }
+
+  /** Each variable of an index is compared, or asked for in a set, in the same method. */
+  private static int lookedAt(String method) {
+    int used = 0;
+    Matcher index = Pattern.compile("\\w\\[([^\\]]+)\\]").matcher(method);
+    while (index.find()) {
+      Matcher name = Pattern.compile("\\b[a-z]\\w*").matcher(index.group(1));
+      while (name.find()) {
+        String it = name.group();
+        String looked = "(?s).*(\\b" + it + "( \\+ 1)? (<|<=|>|>=) |\\.has\\(" + it + "\\)).*";
+        Check.due("", () -> method.matches(looked) ? "" : it + " is not looked at in" + method);
+        used++;
+      }
+    }
+    return used;
   }
 }
